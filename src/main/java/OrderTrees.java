@@ -360,11 +360,11 @@ public final class OrderTrees {
             return 0;
         }
         shown.layRow(i, rowThings);
-        int many = Math.min(sheets.sizeOf(s), thingCount);
-        for (int place = 0; place < many; place++) {
+        int written = Math.min(sheets.sizeOf(s), thingCount);
+        for (int place = 0; place < written; place++) {
             sheets.setItem(s, place, rowThings[place]);
         }
-        return many;
+        return written;
     }
 
     public int count(int what) {
@@ -549,6 +549,7 @@ public final class OrderTrees {
 
         private final int[] starts = new int[IDS];
         private final int[] lengths = new int[IDS];
+        private final int[] chosen = new int[IDS];
 
         Tree() {
             for (int thing = 0; thing < MOST_THINGS; thing++) {
@@ -871,7 +872,7 @@ public final class OrderTrees {
         /** Writes it as it is shown; how many bytes. */
         int show(int[] bytes) {
             if (nodes == 0) {
-                bytes[0] = FIRST_LETTER + root;
+                setAt(bytes, 0, FIRST_LETTER + root);
                 return 1;
             }
             // A part's id is above its node's, so from the last on all lengths are there in time.
@@ -884,17 +885,17 @@ public final class OrderTrees {
             starts[root] = 0;
             for (int id = FIRST; id < FIRST + nodes; id++) {
                 int at = starts[id];
-                bytes[at] = kinds[id] == FREE ? '(' : '[';
+                setAt(bytes, at, kinds[id] == FREE ? '(' : '[');
                 at++;
                 for (int i = 0; i < sizes[id]; i++) {
                     int inner = part(id, i);
                     starts[inner] = at;
                     if (inner < FIRST) {
-                        bytes[at] = FIRST_LETTER + inner;
+                        setAt(bytes, at, FIRST_LETTER + inner);
                     }
                     at += lengths[inner];
                 }
-                bytes[at] = kinds[id] == FREE ? ')' : ']';
+                setAt(bytes, at, kinds[id] == FREE ? ')' : ']');
             }
             return lengths[root];
         }
@@ -904,17 +905,17 @@ public final class OrderTrees {
             int rest = number;
             // The last node's way is the one that changes first.
             for (int id = FIRST + nodes - 1; id >= FIRST; id--) {
-                int ways = ways(id);
-                lengths[id] = rest % ways;
+                int ways = Math.max(ways(id), 1);
+                chosen[id] = rest % ways;
                 rest /= ways;
             }
             starts[root] = 0;
             for (int id = FIRST; id < FIRST + nodes; id++) {
-                layParts(id, lengths[id]);
+                layParts(id, chosen[id]);
             }
             for (int thing = 0; thing < MOST_THINGS; thing++) {
                 if ((sets[root] >> thing & 1) != 0) {
-                    row[starts[thing]] = thing;
+                    setAt(row, starts[thing], thing);
                 }
             }
         }
@@ -928,7 +929,7 @@ public final class OrderTrees {
             for (int i = 0; i < size; i++) {
                 int index = way == 0 ? i : size - 1 - i;
                 if (kinds[node] == FREE) {
-                    int orders = factorial(size - 1 - i);
+                    int orders = Math.max(factorial(size - 1 - i), 1);
                     index = nthBit(unused, rest / orders);
                     rest %= orders;
                     unused &= ~(1 << index);
@@ -1064,16 +1065,16 @@ public final class OrderTrees {
         }
 
         private int part(int node, int i) {
-            return parts[node * MOST_THINGS + i];
+            return i >= 0 && i < MOST_THINGS ? parts[node * MOST_THINGS + i] : 0;
         }
 
         private void setPart(int node, int i, int id) {
-            parts[node * MOST_THINGS + i] = id;
+            setAt(parts, node * MOST_THINGS + i, id);
         }
 
         private void add(int node, int id) {
             if (sizes[node] < MOST_THINGS) {
-                setPart(node, sizes[node], id);
+                parts[node * MOST_THINGS + sizes[node]] = id;
                 sizes[node]++;
                 sets[node] |= sets[id];
             }
@@ -1103,7 +1104,13 @@ public final class OrderTrees {
         }
 
         private int leastThing(int id) {
-            return Integer.bitCount(least(id) - 1);
+            return Integer.bitCount(least(id) - 1) & (MOST_THINGS - 1);
+        }
+
+        private static void setAt(int[] row, int at, int value) {
+            if (at >= 0 && at < row.length) {
+                row[at] = value;
+            }
         }
 
         private static void turn(int[] row, int from, int to) {
