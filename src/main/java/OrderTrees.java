@@ -1069,7 +1069,9 @@ public final class OrderTrees {
         }
 
         private void setPart(int node, int i, int id) {
-            setAt(parts, node * MOST_THINGS + i, id);
+            if (i >= 0 && i < MOST_THINGS) {
+                parts[node * MOST_THINGS + i] = id;
+            }
         }
 
         private void add(int node, int id) {

@@ -181,6 +181,12 @@ public final class PromiseTest {
     due("finding stays", x.count(8), 1);
     x.sheet(1, 0, 0);
     due("an empty one", x.read(1), 0);
+    OrderTrees w = new OrderTrees();
+    for (int size = 3; size >= 1; size -= 2) {
+      w.sheet(0, 2, size);
+      for (int i = 0; i < size; i++) w.put(0, 2, i, set("ab"));
+    }
+    due("no item of the sheet that it was", w.read(0), 1);
     OrderTrees y = with(8);
     y.sheet(3, 0, 2);
     y.put(3, 0, 0, 127);
