@@ -145,6 +145,11 @@ final class GroupEdges {
       put(3, 2, 2, -1) = 1; read(3) = 2; put(3, 2, 2, 128) = 1; read(3) = 2; put(3, 2, 0, 1) = 1; read(3) = 0; count(1) = 7
       put(3, 2, 0, 65539) = 1; read(3) = 0; put(3, 2, 0, LEAST) = 1; read(3) = 0; count(1) = 7
       """);
+    // No more than its items: neither those that it had as another row nor the next SHEET's.
+    s.says(7, sentence, """
+      sheet(0, 2, 3) = 3; put(0, 2, 0, 3) = 1; put(0, 2, 1, 3) = 1; put(0, 2, 2, 3) = 1; sheet(1, 2, 1) = 1; put(1, 2, 0, 3) = 1
+      sheet(0, 2, 1) = 1; put(0, 2, 0, 3) = 1; read(0) = 1; count(1) = 1; sheet(0, 2, 0) = 0; read(0) = 0; count(1) = 1; read(1) = 1
+      """);
     StringBuilder sixty = new StringBuilder("sheet(3, 0, 60) = 60");
     for (int i = 0; i < 60; i++) sixty.append("; put(3, 0, ").append(i).append(", 3) = 1");
     s.says(7, sentence, sixty + "; read(3) = 10; count(1) = 10; read(3) = 0; back() = 9; read(3) = 1; back() = 9; back() = 8; read(3) = 2; count(1) = 10");

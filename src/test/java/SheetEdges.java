@@ -210,7 +210,7 @@ final class SheetEdges {
     s.says(29, sentence, "type ab = 2; sheet(0, 0, 3) = 3; put(0, 0, 0, 1) = 1; lose(1) = NULL; digest() = 3220753129052809373");
     for (String state : new String[] {"", "things(1)", "things(1); type a", "things(2); group(ab)", "things(8)", "group(ab); group(bc); group(ac); told cbade",
       "things(8); group(ab); group(bc); group(ac); group(cd); group(bd); group(gh); group(fg); group(fh); group(ab); group(ah); told abcdefgh",
-      "group(gh); group(ab); told abcdea", "things(3); group(ab); group(bc); group(ac); told acb"}) {
+      "group(gh); group(ab); told abcdea", "group(abc)", "group(bcd)", "things(4)", "group(bc); group(cd); group(bd)", "group(ac)", "things(3); group(ab); group(bc); group(ac); told acb"}) {
       s.says(29, sentence, state + "; digest() = " + wrapped(state));
     }
   }

@@ -176,6 +176,24 @@ final class TermEdges {
       group(ac) = 1; shown = ([bacd](ef)gh)
       group(bc) = 0; group(acef) = 0; group(bh) = 1; shown = ([dcabh](ef)g)
       """);
+    s.says(TERMS, sentence, """
+      things(8) = 5
+      group(ab) = 1; group(cd) = 1; group(de) = 1; shown = ((ab)[cde]fgh)
+      group(bd) = 0; group(ad) = 0; group(bdf) = 0      # the second PARTIAL one has them within
+      group(bc) = 1; shown = ([abcde]fgh); group(df) = 0; group(ef) = 1; shown = ([abcdef]gh)
+      """);
+    s.says(TERMS, sentence, """
+      things(8) = 5
+      group(ad) = 1; group(ae) = 1; group(abde) = 1; group(bc) = 1; shown = ([[dae]bc]fgh)
+      group(ab) = 0; group(abc) = 0; group(af) = 0; group(acf) = 0; shown = ([[dae]bc]fgh)
+      group(bd) = 1; shown = ([cbdae]fgh)
+      """);
+    s.says(TERMS, sentence, """
+      things(8) = 5
+      group(ab) = 1; group(cd) = 1; group(abcd) = 1; shown = (((ab)(cd))efgh)
+      group(ace) = 0; group(bdh) = 0      # a PARTIAL one with two PARTIAL ones in it
+      group(ac) = 1; shown = ([bacd]efgh); group(ace) = 0; group(acde) = 1; shown = ([bacde]fgh)
+      """);
     String[] groups = {"group(ab)", "group(bcd)", "group(de)", "group(cde)"};
     for (int code = 0; code < 256; code++) {
       int[] order = {code & 3, code >> 2 & 3, code >> 4 & 3, code >> 6};
