@@ -194,6 +194,11 @@ final class TermEdges {
       group(ace) = 0; group(bdh) = 0      # a PARTIAL one with two PARTIAL ones in it
       group(ac) = 1; shown = ([bacd]efgh); group(ace) = 0; group(acde) = 1; shown = ([bacde]fgh)
       """);
+    s.says(TERMS, sentence, """
+      things(8) = 5
+      group(ab) = 1; group(cd) = 1; group(abcd) = 1; group(abcde) = 1; shown = ((((ab)(cd))e)fgh)
+      group(acef) = 0; group(ef) = 1; shown = ([((ab)(cd))ef]gh)      # nothing of the refused one is left
+      """);
     String[] groups = {"group(ab)", "group(bcd)", "group(de)", "group(cde)"};
     for (int code = 0; code < 256; code++) {
       int[] order = {code & 3, code >> 2 & 3, code >> 4 & 3, code >> 6};
@@ -218,6 +223,10 @@ final class TermEdges {
       told daebc; number() = 0; told eadbc; number() = 1
       group(abde) = 1; group(bc) = 1; shown = [[dae]bc]
       row 0 = daebc; row 1 = eadbc; row 2 = cbdae; row 3 = cbead; row 4 = none
+      """);
+    s.says(TERMS, "a TURNING one has the WAYS 0 (as SHOWN), 1 (turned);", """
+      group(cd) = 1; group(de) = 1; shown = (ab[cde])
+      row 0 = abcde; row 1 = abedc; row 11 = edcba; told abedc; number() = 1; told edcba; number() = 11
       """);
     s.says(TERMS, ways, """
       things(3) = 5; row 3 = bca; row 4 = cab; told bca; number() = 3; told cab; number() = 4
@@ -273,6 +282,10 @@ final class TermEdges {
       reason(5) = {2 3}      # ac, bc, cd cannot be by themselves, so that ab is left out
       group(ad) = 0; reason(6) = {1 2 3}; group(bd) = 0; reason(7) = {2 3}; group(bde) = 0; reason(8) = {2 3}
       """);
+    s.says(TERMS, sentence, """
+      things(4) = 5; group(abc) = 1; group(bcd) = 1; group(ac) = 1; shown = [acbd]
+      group(ab) = 0; reason(3) = {1 2}      # a is between b and c by ab and ac, which bcd refuses
+      """);
   }
 
   private static void mayMustApartSpare(Sentences s) {
@@ -300,6 +313,10 @@ final class TermEdges {
       group(abcde) = 1; group(gh) = 1; group(ah) = 1; spare() = {0 1 4 5 6 7}
       group(cd) = 1; group(ad) = 0; spare() = {0 1 4 5 6 7}
       things(2) = 5; spare() = {0 1 2 3 4 5 6 7 8 9}
+      """);
+    s.says(TERMS, "SPARE are TAKEN GROUPS without each of which alone (all other TAKEN ones there) as many ROWS are PERMITTED.", """
+      group(bcde) = 1; group(abcde) = 1; group(bc) = 1; group(ab) = 1; shown = [abc(de)]; spare() = {1}
+      group(de) = 1; spare() = {1 4}; group(cd) = 1; spare() = {0 1 4}      # ab, bc, cd with de or with bcde
       """);
   }
 
