@@ -4,6 +4,7 @@ public final class EdgeTest {
 
   public static void main(String[] args) throws java.io.IOException {
     Sentences sentences = new Sentences();
+    AimEdges.tell(sentences);
     TermEdges.tell(sentences);
     GroupEdges.tell(sentences);
     TreeEdges.tell(sentences);

@@ -6,7 +6,10 @@ import java.lang.reflect.Modifier;
 import java.nio.file.Files;
 import java.nio.file.Path;
 import java.util.ArrayList;
+import java.util.HashMap;
 import java.util.List;
+import java.util.Map;
+import java.util.Random;
 import java.util.Set;
 import java.util.TreeSet;
 import java.util.regex.Matcher;
@@ -87,6 +90,96 @@ public final class RulesTest {
     }
   }
 
+  /** The document's own face, where the document is there: its calls, their order, the words ahead of them. */
+  private static void document() throws Exception {
+    Path path = Path.of("../shared/DOC.md");
+    if (!Files.isReadable(path)) { System.out.println("the document is not there, so that its face is not looked at"); return; }
+    String document = Files.readString(path);
+    String face = document.substring(document.indexOf("```java") + 7, document.indexOf("## Terms"));
+    String whole = Files.readString(Path.of("src/main/java/OrderTrees.java"));
+    Matcher parts = Pattern.compile("public [^;{]+").matcher(face);
+    int at = 0, found = 0;
+    while (parts.find()) {
+      int next = whole.indexOf(parts.group().trim(), at);
+      check(next >= at, "of the document's face, in its order: " + parts.group().trim());
+      at = Math.max(next, at);
+      found++;
+    }
+    check(found == FACE.length + 3, "all of the document's face: " + found);
+    Matcher words = Pattern.compile("Ahead of the calls `(\\w+)`.*, `(\\w+)` the interface says: (---- [\\w, ]+)\\.").matcher(document);
+    int sections = 0;
+    for (int last = 0; words.find(); sections++) {
+      int said = whole.indexOf("// " + words.group(3) + "\n"), first = whole.indexOf(" " + words.group(1) + "(int");
+      if (first < 0) first = whole.indexOf(" " + words.group(1) + "()");
+      check(said > last && said < first, "ahead of " + words.group(1) + ": " + words.group(3));
+      last = whole.indexOf(" " + words.group(2) + "(", said);
+    }
+    check(sections == 4, "four times words ahead of calls: " + sections);
+  }
+
+  // ---- which method calls which, by their names (no two classes have one in common)
+
+  private static Map<String, Set<String>> callGraph() throws Exception {
+    String code = Files.readString(Path.of("src/main/java/OrderTrees.java")).replaceAll("(?s)/\\*.*?\\*/", "").replaceAll("//[^\n]*", "");
+    Map<String, String> bodies = new HashMap<>();
+    Matcher heads = Pattern.compile("(?m)^ +(?:public |private |static )*(?:[\\w\\[\\]]+ )?(\\w+)\\([\\w\\[\\], ]*\\) \\{$").matcher(code);
+    while (heads.find()) {
+      int end = heads.end();
+      for (int depth = 1; depth > 0 && end < code.length(); end++) depth += code.charAt(end) == '{' ? 1 : code.charAt(end) == '}' ? -1 : 0;
+      check(bodies.put(heads.group(1), code.substring(heads.end(), end)) == null, "a name for each method: " + heads.group(1));
+    }
+    Map<String, Set<String>> graph = new HashMap<>();
+    for (String name : bodies.keySet()) {
+      Set<String> called = new TreeSet<>();
+      Matcher calls = Pattern.compile("(?<!new )\\b(\\w+)\\(").matcher(bodies.get(name));
+      while (calls.find()) if (bodies.containsKey(calls.group(1))) called.add(calls.group(1));
+      graph.put(name, called);
+    }
+    return graph;
+  }
+
+  private static int depthOf(String name, Map<String, Set<String>> graph, List<String> open) {
+    if (open.contains(name)) {
+      check(name.equals("place") && open.get(open.size() - 1).equals(name), "only place() calls itself: " + open + " " + name);
+      return 0;
+    }
+    open.add(name);
+    int deepest = 0;
+    for (String called : graph.get(name)) deepest = Math.max(deepest, depthOf(called, graph, open));
+    open.remove(open.size() - 1);
+    return deepest + 1;
+  }
+
+  private static void callDepth() throws Exception {
+    Map<String, Set<String>> graph = callGraph();
+    for (Method m : OrderTrees.class.getDeclaredMethods()) check(graph.containsKey(m.getName()), "found in the source: " + m.getName());
+    for (String name : graph.keySet()) {
+      int depth = depthOf(name, graph, new ArrayList<>());
+      check(depth <= 8, "calls go at most eight deep: " + name + "() goes " + depth);
+    }
+  }
+
+  /** Any arguments in any state, far behind the 512th call, too. */
+  private static void neverThrows() throws Exception {
+    int[] edges = {Integer.MIN_VALUE, -61, -9, -2, -1, 0, 1, 2, 3, 4, 5, 6, 7, 8, 9, 12, 24, 39, 40, 59, 60, 61, 96, 97, 104, 129, 192, 255, 256, 40319,
+      40320, Integer.MAX_VALUE};
+    Method[] calls = java.util.Arrays.stream(OrderTrees.class.getMethods()).filter(m -> m.getDeclaringClass() == OrderTrees.class)
+      .sorted(java.util.Comparator.comparing(Method::getName)).toArray(Method[]::new);
+    Random r = new Random(29);
+    OrderTrees x = new OrderTrees();
+    for (int i = 0; i < 200000; i++) {
+      Method call = calls[r.nextInt(calls.length)];
+      Object[] arguments = new Object[call.getParameterCount()];
+      for (int k = 0; k < arguments.length; k++) arguments[k] = r.nextInt(3) > 0 ? r.nextInt(9) : edges[r.nextInt(edges.length)];
+      try {
+        call.invoke(x, arguments);
+      } catch (java.lang.reflect.InvocationTargetException e) {
+        check(false, "no call throws: " + call.getName() + java.util.Arrays.toString(arguments) + " threw " + e.getCause());
+        return;
+      }
+    }
+  }
+
   private static void room() {
     com.sun.management.ThreadMXBean bean = (com.sun.management.ThreadMXBean) ManagementFactory.getThreadMXBean();
     long sum = work(new OrderTrees());
@@ -109,6 +202,9 @@ public final class RulesTest {
   public static void main(String[] args) throws Exception {
     face();
     source();
+    document();
+    callDepth();
+    neverThrows();
     room();
     System.out.println(wrong == 0 ? "all rules are kept" : wrong + " rules are not kept");
     if (wrong != 0) System.exit(1);

@@ -109,7 +109,7 @@ final class Sentences {
 
   private void holdAgainstDocument(String document) {
     place = "the document";
-    String body = document.substring(document.indexOf("======== 1"), document.indexOf("## Not promised"))
+    String body = document.substring(document.indexOf("Consecutive"), document.indexOf("## Not promised"))
       .replaceAll("(?s)## The public face.*?## Terms", "")
       .replaceAll("```(text)?", "")
       .replaceAll("======== \\d", "")

@@ -1,4 +1,9 @@
+import java.util.ArrayDeque;
+import java.util.Arrays;
+import java.util.Deque;
+import java.util.HashSet;
 import java.util.Random;
+import java.util.Set;
 
 /** Trees, rows and reasons of many lists of groups, held whole against the model. */
 public final class TreeTest {
@@ -46,6 +51,45 @@ public final class TreeTest {
     hold(told.toString(), x, m);
   }
 
+  /**
+   * From every tree that there is of so many things, by every group, to the next one. How many there
+   * are can be counted without drawing one: by the parts of the first node, and the trees of each.
+   */
+  private static void allTrees(int n, int due) {
+    Set<String> seen = new HashSet<>();
+    Deque<int[]> left = new ArrayDeque<>();
+    left.add(new int[0]);
+    seen.add(told(n).text());
+    while (!left.isEmpty() && wrong == 0) {
+      int[] sets = left.remove();
+      Model m = told(n, sets);
+      for (int set = 3; set < 1 << n; set++) {
+        if (Integer.bitCount(set) < 2) continue;
+        OrderTrees x = new OrderTrees();
+        x.things(n);
+        for (int each : sets) x.group(each);
+        String call = n + " things, groups " + Arrays.toString(sets) + ", group(" + set + ")";
+        same(call, x.group(set), m.group(set));
+        same(call + " many()", x.many(), m.many());
+        for (int i = -1; i < 22; i++) same(call + " tree(" + i + ")", x.tree(i), m.tree(i));
+        if (seen.add(m.text())) {
+          int[] more = Arrays.copyOf(sets, sets.length + 1);
+          more[sets.length] = set;
+          left.add(more);
+        }
+        same(call + " back()", x.back(), m.back());
+      }
+    }
+    same("how many trees of " + n + " things there are", seen.size(), due);
+  }
+
+  private static Model told(int n, int... sets) {
+    Model m = new Model();
+    m.things(n);
+    for (int set : sets) m.group(set);
+    return m;
+  }
+
   /** Groups that some hidden row has, so that all are taken and trees grow deep; or any at all. */
   private static void bigOnes(int lists) {
     Random r = new Random(4711);
@@ -68,6 +112,9 @@ public final class TreeTest {
   }
 
   public static void main(String[] args) {
+    int[] trees = {1, 1, 7, 68, 941, 16657, 360151};
+    int mostThings = args.length > 1 ? Integer.parseInt(args[1]) : 5;
+    for (int n = 1; n <= mostThings; n++) allTrees(n, trees[n - 1]);
     smallOnes();
     bigOnes(args.length > 0 ? Integer.parseInt(args[0]) : 400);
     System.out.println(wrong == 0 ? "all trees are as the model has them" : wrong + " answers are not as the model has them");
